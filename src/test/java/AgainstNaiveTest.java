@@ -55,9 +55,10 @@ public final class AgainstNaiveTest {
         }
     }
 
+    /** From here to there, now and then outside. */
     private int near(int from, int to) {
-        // Now and then one outside of what there is.
-        return random.nextInt(25) == 0 ? (random.nextBoolean() ? from - 1 : to + 1) : from + random.nextInt(to - from + 1);
+        int[] outside = {from - 1, to + 1, from - 1, to + 1, Integer.MIN_VALUE, Integer.MAX_VALUE, -random.nextInt(1 << 20), random.nextInt(1 << 20)};
+        return random.nextInt(25) == 0 ? outside[random.nextInt(outside.length)] : from + random.nextInt(to - from + 1);
     }
 
     private int p() {

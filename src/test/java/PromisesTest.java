@@ -487,6 +487,7 @@ public final class PromisesTest {
         told(0, "a=x^8;b=a^5");
         told(1, "a=x^9;b=a^4;c=b+x");
         made(1, "x", 2, 8, 0, 1);
+        made(1, "x", 2, 8, 1, 0);
     }
 
     private void promise9Wrong() {
@@ -533,6 +534,10 @@ public final class PromisesTest {
         told(0, "a=x^3");
         told(1, "a=y^7;b=a*a");
         is("42", -2, s.put(2, 0, 0, 1));
+        told(3, "a=x^4");
+        told(4, "a=y^5;b=a*a");
+        is("40", 1, s.put(2, 3, 0, 4));
+        isPoly(2, "y^40");
         is("not needed", 1, s.put(2, 0, 1, 1));
         isPoly(2, "x^3");
         // Lesser powers count too: over 2 the fourth one has few terms, the third one many.
@@ -570,6 +575,8 @@ public final class PromisesTest {
         isPoly(2, "4*x^4+1");
         s.feed(0x00000001, 0x05000000, 0, 0, 0);
         is("5", -1, s.fit(2));
+        s.feed(0x05000000, 0, 0, 0, 0);
+        is("5 first", -1, s.fit(2));
         is("the tape is empty", 0, s.count(2));
         isPoly(2, "4*x^4+1");
         is("acts", 4, s.count(3));
@@ -649,6 +656,10 @@ public final class PromisesTest {
         }
         told(1, "a=x+y;b=x-z;c=a*a;d=b*c;e=d*y");
         is("one degree", 1, s.of(1, 8));
+        told(2, "a=x*x;b=a+y");
+        is("two degrees", 0, s.of(2, 8));
+        told(2, "a=2*x;b=a+3");
+        is("a line itself", 1, s.of(2, 6));
         is("factors", 3, s.of(1, 6));
         is("all", 4, s.of(1, 7));
         // x + y = 0, x = z or y = 0: 25 each, 5 in each two of them, 1 in all.
@@ -666,6 +677,12 @@ public final class PromisesTest {
         is("zeros", 2197, s.of(0, 5));
         is("factors", 14, s.of(0, 6));
         is("all", 14, s.of(0, 7));
+        told(1, "a=x^9;b=x^4;c=a*b;d=c-x;e=y^9;f=y^4;g=e*f;h=g-y;i=z^9;j=z^4;k=i*j;l=k-z;m=d*h;n=m*l");
+        is("factors", 39, s.of(1, 6));
+        is("factor 38", 12, s.factor(1, 38, 3));
+        told(1, "a=x^8;b=a^5;c=y^8;d=c^5;e=z^8;f=e^5;g=b*d;h=g*f");
+        is("all of x^40 y^40 z^40", 120, s.of(1, 7));
+        is("x", 40, s.often(1, 1, 0, 0, 0));
     }
 
     private void promise14() {
@@ -704,6 +721,12 @@ public final class PromisesTest {
         is("number", 0, s.number(0, 41, 0, 0));
         is("number", 0, s.number(0, 39, 63, 64));
         is("number", 0, s.number(0, 0, 0, 65));
+        told(1, "a=x^9;b=a^4;c=y^9;d=c^4;e=y^4;f=d*e;g=z^9;h=g^4;i=z^4;j=h*i;k=f+j;l=k+x;m=l+y");
+        is("y^40", 1, s.number(1, 0, 40, 0));
+        is("z^40", 1, s.number(1, 0, 0, 40));
+        is("not x", 0, s.number(1, 0, 64, 0));
+        is("not y", 0, s.number(1, 0, 0, 64));
+        is("degree in y", 40, s.of(1, 3));
         is("number", 0, s.number(0, Integer.MAX_VALUE, Integer.MAX_VALUE, Integer.MAX_VALUE));
         CHECKS.illegal("below 0", () -> s.number(0, -1, 0, 0));
         CHECKS.illegal("below 0", () -> s.number(0, 0, -1, 0));
@@ -720,6 +743,13 @@ public final class PromisesTest {
         is("value", 3, s.value(0, 2, 5, 6));
         is("value", 4, s.value(0, 0, 0, 0));
         is("value of 0", 0, s.value(1, 1, 1, 1));
+        // 40 is 4 mod 6: 3^4 = 81 = 4.
+        told(2, "a=x^8;b=a^5");
+        is("x^40", 4, s.value(2, 3, 0, 0));
+        told(2, "a=y^8;b=a^5");
+        is("y^40", 4, s.value(2, 0, 3, 0));
+        told(2, "a=z^8;b=a^5");
+        is("z^40", 4, s.value(2, 0, 0, 3));
         CHECKS.illegal("no point", () -> s.value(0, 7, 0, 0));
         CHECKS.illegal("no point", () -> s.value(0, 0, 7, 0));
         CHECKS.illegal("no point", () -> s.value(0, 0, 0, -1));
