@@ -77,15 +77,7 @@ public final class AgainstNaiveTest {
     }
 
     private void feedText(String text) {
-        StringBuilder padded = new StringBuilder(text);
-        while (padded.length() % 20 != 0) {
-            padded.append(' ');
-        }
-        for (int i = 0; i < padded.length(); i += 20) {
-            int[] w = new int[5];
-            for (int k = 0; k < 20; k++) {
-                w[k / 4] = w[k / 4] << 8 | padded.charAt(i + k);
-            }
+        for (int[] w : Desk.words(text)) {
             both("feed(" + w[0] + ", " + w[1] + ", " + w[2] + ", " + w[3] + ", " + w[4] + ")",
                     () -> real.feed(w[0], w[1], w[2], w[3], w[4]), () -> naive.feed(w[0], w[1], w[2], w[3], w[4]));
         }

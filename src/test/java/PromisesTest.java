@@ -1,9 +1,8 @@
 /** Each promise of the document with answers worked out by hand: ordinary inputs, edges, wrong inputs. */
-public final class PromisesTest {
-    private static final Checks CHECKS = new Checks("PromisesTest");
-    private static final int[] SIZES = {2, 3, 5, 7, 11, 13};
-
-    private StraightPolys s = new StraightPolys();
+public final class PromisesTest extends Desk {
+    private PromisesTest() {
+        super("PromisesTest");
+    }
 
     public static void main(String[] args) {
         PromisesTest test = new PromisesTest();
@@ -32,47 +31,7 @@ public final class PromisesTest {
         test.promises17And18();
         test.promises19And20();
         test.promises21And22();
-        CHECKS.finish();
-    }
-
-    private void fresh(int p) {
-        s = new StraightPolys();
-        if (p != 5) {
-            s.field(p);
-        }
-    }
-
-    /** Puts a text on the tape, with blanks behind it up to twenty bytes each time. */
-    private void feedText(String text) {
-        for (int i = 0; i == 0 || i < text.length(); i += 20) {
-            int[] w = new int[5];
-            for (int k = 0; k < 20; k++) {
-                w[k / 4] = w[k / 4] << 8 | (i + k < text.length() ? text.charAt(i + k) : ' ');
-            }
-            s.feed(w[0], w[1], w[2], w[3], w[4]);
-        }
-    }
-
-    private int told(int place, String text) {
-        feedText(text);
-        return s.tell(place, text.length());
-    }
-
-    private String poly(int place) {
-        StringBuilder text = new StringBuilder();
-        int length = s.say(place);
-        for (int i = 0; i < length; i++) {
-            text.append((char) s.said(i));
-        }
-        return text.toString();
-    }
-
-    private void is(String what, int want, int got) {
-        CHECKS.dueText(what, Integer.toString(want), Integer.toString(got));
-    }
-
-    private void isPoly(int place, String want) {
-        CHECKS.dueText("place " + place, want, poly(place));
+        test.checks.finish();
     }
 
     private void promise1() {
@@ -116,7 +75,7 @@ public final class PromisesTest {
         is("undo", -1, s.undo());
         is("the tape stays", 20, s.count(2));
         is("what was said stays", 'x', s.said(0));
-        CHECKS.missing("no step", () -> s.step(0, 0));
+        missing("no step", () -> s.step(0, 0));
         s.tell(0, 0);
         told(0, "a=");
         s.field(7);
@@ -142,12 +101,6 @@ public final class PromisesTest {
         feedText("a  =x +   1 ;b=a*a; ");
         is("all five numbers", 2, s.tell(0, 20));
         isPoly(0, "x^2+1");
-    }
-
-    private void told(String text, int want, int fault) {
-        is("tell " + text, want, told(0, text));
-        is("fault of " + text, fault, s.fault());
-        is("the tape is empty", 0, s.count(2));
     }
 
     private void promise4Texts() {
@@ -237,11 +190,10 @@ public final class PromisesTest {
         told("a=x^9;b=a^4;c=0*b;d=c*b", 0, -1);
         // Powers on the way: the fourth one has few terms, the third one many.
         fresh(2);
-        String many = "a=x+1;b=a^7;c=y+1;d=c^7;e=z+1;f=e^7;g=b*x;h=d*y;i=f*z;j=x*y;k=j*z;l=g+h;m=l+i;n=m+k";
-        is("many of 2", 25, told(1, many));
-        told(many + ";o=n^2", 25, -1);
-        told(many + ";o=n^4", -2, -1);
-        told(many + ";o=n^2;p=o^2", 25, -1);
+        is("many of 2", 25, told(1, THIRD_IS_MANY));
+        told(THIRD_IS_MANY + ";o=n^2", 25, -1);
+        told(THIRD_IS_MANY + ";o=n^4", -2, -1);
+        told(THIRD_IS_MANY + ";o=n^2;p=o^2", 25, -1);
     }
 
     private void promise4State() {
@@ -255,13 +207,13 @@ public final class PromisesTest {
         is("acts", 1, s.count(3));
         feedText("a=x");
         s.tell(0, 5);
-        CHECKS.illegal("empty", () -> s.tell(0, 1));
+        illegal("empty", () -> s.tell(0, 1));
         feedText("a=x");
-        CHECKS.illegal("no place", () -> s.tell(6, 3));
-        CHECKS.illegal("no place", () -> s.tell(-1, 3));
-        CHECKS.illegal("too many", () -> s.tell(0, 21));
-        CHECKS.illegal("below 0", () -> s.tell(0, -1));
-        CHECKS.illegal("below 0", () -> s.tell(0, Integer.MIN_VALUE));
+        illegal("no place", () -> s.tell(6, 3));
+        illegal("no place", () -> s.tell(-1, 3));
+        illegal("too many", () -> s.tell(0, 21));
+        illegal("below 0", () -> s.tell(0, -1));
+        illegal("below 0", () -> s.tell(0, Integer.MIN_VALUE));
         is("nothing changed", 20, s.count(2));
         is("all bytes", 1, s.tell(5, 20));
         isPoly(5, "x");
@@ -276,7 +228,7 @@ public final class PromisesTest {
         told(0, "a=x;b=q");
         is("fault", 6, s.fault());
         feedText("a=x");
-        CHECKS.illegal("tell", () -> s.tell(0, 99));
+        illegal("tell", () -> s.tell(0, 99));
         is("fault as before", 6, s.fault());
         s.tell(0, 3);
         is("none now", -1, s.fault());
@@ -294,8 +246,8 @@ public final class PromisesTest {
         is("steps", 3, s.count(1));
         is("bytes", 20, s.count(2));
         is("acts", 2, s.count(3));
-        CHECKS.missing("count", () -> s.count(4));
-        CHECKS.missing("count", () -> s.count(-1));
+        missing("count", () -> s.count(4));
+        missing("count", () -> s.count(-1));
     }
 
     private void promise7() {
@@ -309,10 +261,10 @@ public final class PromisesTest {
                 is("step " + step + " what " + what, want[step][what], s.step(step, what));
             }
         }
-        CHECKS.missing("no step", () -> s.step(10, 0));
-        CHECKS.missing("no step", () -> s.step(-1, 0));
-        CHECKS.missing("no what", () -> s.step(0, 7));
-        CHECKS.missing("no what", () -> s.step(0, -1));
+        missing("no step", () -> s.step(10, 0));
+        missing("no step", () -> s.step(-1, 0));
+        missing("no what", () -> s.step(0, 7));
+        missing("no what", () -> s.step(0, -1));
         told(0, "a=x-x;b=a^9;c=b^9;d=c^9;e=d^9;f=e^9;g=f^9;h=g^9;i=h^9;j=i+h;k=h^0;l=i*y;m=7");
         is("bound", 531441, s.step(6, 0));
         is("at most", 999999, s.step(7, 0));
@@ -332,35 +284,35 @@ public final class PromisesTest {
         int[] values = {6, 4, 1, 2, 2, 6};
         for (int step = 0; step < 6; step++) {
             int k = step;
-            CHECKS.due("value", values[k], () -> s.at(k, false, 2, 3, 5));
-            CHECKS.due("turn", k == 5 ? 1 : 0, () -> s.at(k, true, 2, 3, 5));
+            due("value", values[k], () -> s.at(k, false, 2, 3, 5));
+            due("turn", k == 5 ? 1 : 0, () -> s.at(k, true, 2, 3, 5));
         }
         told(0, "a=x*y;b=a+z;c=b^3;d=c-a;e=d");
         // of c 1, of b 3 * 16 = 48 = 6, of a 6 - 1 = 5.
         int[] turns = {5, 6, 1, 1, 1};
         for (int step = 0; step < 5; step++) {
             int k = step;
-            CHECKS.due("turn", turns[k], () -> s.at(k, true, 2, 3, 5));
+            due("turn", turns[k], () -> s.at(k, true, 2, 3, 5));
         }
         told(0, "a=x;b=a*a;c=a-b;d=b*c;e=c^0;f=d+e;g=f^1");
         // x = 3: a 3, b 2, c 1, d 2; d' = 1, c' = 2, b' = 1 - 2 = 6, a' = 2 + 6 * 6 = 38 = 3.
-        CHECKS.due("twice an atom", 3, () -> s.at(0, true, 3, 0, 0));
-        CHECKS.due("two ways", 6, () -> s.at(1, true, 3, 0, 0));
-        CHECKS.due("to the 0", 0, () -> s.at(4, true, 3, 0, 0) - 1);
-        CHECKS.due("value", 3, () -> s.at(6, false, 3, 0, 0));
+        due("twice an atom", 3, () -> s.at(0, true, 3, 0, 0));
+        due("two ways", 6, () -> s.at(1, true, 3, 0, 0));
+        due("to the 0", 0, () -> s.at(4, true, 3, 0, 0) - 1);
+        due("value", 3, () -> s.at(6, false, 3, 0, 0));
         told(0, "a=x;b=a^1;c=b^7");
-        CHECKS.due("of ^1 where it is 0", 0, () -> s.at(0, true, 0, 0, 0));
+        due("of ^1 where it is 0", 0, () -> s.at(0, true, 0, 0, 0));
         told(0, "a=x;b=a^1");
-        CHECKS.due("of ^1 where it is 0", 1, () -> s.at(0, true, 0, 0, 0));
+        due("of ^1 where it is 0", 1, () -> s.at(0, true, 0, 0, 0));
         told(0, "a=x^0;b=a*y");
-        CHECKS.due("0 to the 0", 6, () -> s.at(1, false, 0, 6, 0));
-        CHECKS.missing("no step, ahead of no point", () -> s.at(2, false, 7, 0, 0));
-        CHECKS.missing("no step", () -> s.at(-1, true, 0, 0, 0));
-        CHECKS.illegal("no point", () -> s.at(0, false, 7, 0, 0));
-        CHECKS.illegal("no point", () -> s.at(0, true, 0, -1, 0));
-        CHECKS.illegal("no point", () -> s.at(0, true, 0, 0, 7));
+        due("0 to the 0", 6, () -> s.at(1, false, 0, 6, 0));
+        missing("no step, ahead of no point", () -> s.at(2, false, 7, 0, 0));
+        missing("no step", () -> s.at(-1, true, 0, 0, 0));
+        illegal("no point", () -> s.at(0, false, 7, 0, 0));
+        illegal("no point", () -> s.at(0, true, 0, -1, 0));
+        illegal("no point", () -> s.at(0, true, 0, 0, 7));
         fresh(5);
-        CHECKS.missing("no program", () -> s.at(0, false, 0, 0, 0));
+        missing("no program", () -> s.at(0, false, 0, 0, 0));
     }
 
     private void made(int want, String poly, int place, int how, int i, int j) {
@@ -498,7 +450,7 @@ public final class PromisesTest {
             {0, 7, 1, 0}, {0, 7, -1, 0}, {6, 7, 0, 0}, {0, 8, 0, 6}, {0, 8, 0, -1}, {0, 9, 0, 6}, {0, 9, 0, -1}, {0, 9, 7, 0},
             {Integer.MAX_VALUE, Integer.MAX_VALUE, Integer.MAX_VALUE, Integer.MAX_VALUE}};
         for (int[] w : wrong) {
-            CHECKS.due("make of " + w[0] + " " + w[1] + " " + w[2] + " " + w[3], -1, () -> s.make(w[0], w[1], w[2], w[3]));
+            due("make of " + w[0] + " " + w[1] + " " + w[2] + " " + w[3], -1, () -> s.make(w[0], w[1], w[2], w[3]));
         }
         isPoly(0, "x+1");
         is("acts", 1, s.count(3));
@@ -519,7 +471,7 @@ public final class PromisesTest {
         is("into 0", 0, s.put(2, 5, 0, 1));
         int[][] wrong = {{6, 0, 0, 1}, {-1, 0, 0, 1}, {2, 6, 0, 1}, {2, -1, 0, 1}, {2, 0, 3, 1}, {2, 0, -1, 1}, {2, 0, 0, 6}, {2, 0, 0, -1}};
         for (int[] w : wrong) {
-            CHECKS.due("put of " + w[0] + " " + w[1] + " " + w[2] + " " + w[3], -1, () -> s.put(w[0], w[1], w[2], w[3]));
+            due("put of " + w[0] + " " + w[1] + " " + w[2] + " " + w[3], -1, () -> s.put(w[0], w[1], w[2], w[3]));
         }
         // 50 and 50 cancel: what comes of it is not TOO MUCH.
         told(0, "a=y^9;b=y^2;c=a*a;d=b*c;e=c*c;f=e*x;g=y^9;h=a^3;i=y^8;j=h*i;k=x*j;l=x*x;m=l*d;n=m-k;o=n+x");
@@ -542,8 +494,7 @@ public final class PromisesTest {
         isPoly(2, "x^3");
         // Lesser powers count too: over 2 the fourth one has few terms, the third one many.
         fresh(2);
-        String many = "a=x+1;b=a^7;c=y+1;d=c^7;e=z+1;f=e^7;g=b*x;h=d*y;i=f*z;j=x*y;k=j*z;l=g+h;m=l+i;n=m+k";
-        told(0, many);
+        told(0, THIRD_IS_MANY);
         told(1, "a=x^4");
         is("third", -2, s.put(2, 1, 0, 0));
         told(1, "a=x^2");
@@ -580,10 +531,10 @@ public final class PromisesTest {
         is("the tape is empty", 0, s.count(2));
         isPoly(2, "4*x^4+1");
         is("acts", 4, s.count(3));
-        CHECKS.illegal("too few", () -> s.fit(2));
+        illegal("too few", () -> s.fit(2));
         s.feed(0x05000000, 0, 0, 0, 0);
-        CHECKS.illegal("no place, ahead of 5", () -> s.fit(6));
-        CHECKS.illegal("no place", () -> s.fit(-1));
+        illegal("no place, ahead of 5", () -> s.fit(6));
+        illegal("no place", () -> s.fit(-1));
         is("nothing changed", 20, s.count(2));
         for (int p : SIZES) {
             fresh(p);
@@ -664,10 +615,10 @@ public final class PromisesTest {
         is("all", 4, s.of(1, 7));
         // x + y = 0, x = z or y = 0: 25 each, 5 in each two of them, 1 in all.
         is("zeros", 61, s.of(1, 5));
-        CHECKS.missing("no what", () -> s.of(0, 9));
-        CHECKS.missing("no what", () -> s.of(0, -1));
-        CHECKS.missing("no place", () -> s.of(6, 0));
-        CHECKS.missing("no place", () -> s.of(-1, 0));
+        missing("no what", () -> s.of(0, 9));
+        missing("no what", () -> s.of(0, -1));
+        missing("no place", () -> s.of(6, 0));
+        missing("no place", () -> s.of(-1, 0));
         fresh(13);
         is("zeros of 0", 2197, s.of(3, 5));
         told(0, "a=x^9;b=x^4;c=a*b;d=c-x");
@@ -701,15 +652,15 @@ public final class PromisesTest {
                 }
             }
         }
-        CHECKS.missing("no place", () -> s.term(6, 0, 0, 0));
-        CHECKS.missing("no place", () -> s.term(-1, 0, 0, 0));
-        CHECKS.missing("no order", () -> s.term(0, 3, 0, 0));
-        CHECKS.missing("no order", () -> s.term(0, -1, 0, 0));
-        CHECKS.missing("no term", () -> s.term(0, 0, 6, 0));
-        CHECKS.missing("no term", () -> s.term(0, 0, -1, 0));
-        CHECKS.missing("no what", () -> s.term(0, 0, 0, 4));
-        CHECKS.missing("no what", () -> s.term(0, 0, 0, -1));
-        CHECKS.missing("no term of 0", () -> s.term(1, 0, 0, 0));
+        missing("no place", () -> s.term(6, 0, 0, 0));
+        missing("no place", () -> s.term(-1, 0, 0, 0));
+        missing("no order", () -> s.term(0, 3, 0, 0));
+        missing("no order", () -> s.term(0, -1, 0, 0));
+        missing("no term", () -> s.term(0, 0, 6, 0));
+        missing("no term", () -> s.term(0, 0, -1, 0));
+        missing("no what", () -> s.term(0, 0, 0, 4));
+        missing("no what", () -> s.term(0, 0, 0, -1));
+        missing("no term of 0", () -> s.term(1, 0, 0, 0));
     }
 
     private void promise15() {
@@ -728,11 +679,11 @@ public final class PromisesTest {
         is("not y", 0, s.number(1, 0, 0, 64));
         is("degree in y", 40, s.of(1, 3));
         is("number", 0, s.number(0, Integer.MAX_VALUE, Integer.MAX_VALUE, Integer.MAX_VALUE));
-        CHECKS.illegal("below 0", () -> s.number(0, -1, 0, 0));
-        CHECKS.illegal("below 0", () -> s.number(0, 0, -1, 0));
-        CHECKS.illegal("below 0", () -> s.number(0, 50, 50, -1));
-        CHECKS.missing("no place, ahead of that", () -> s.number(6, -1, 0, 0));
-        CHECKS.missing("no place", () -> s.number(-1, 0, 0, 0));
+        illegal("below 0", () -> s.number(0, -1, 0, 0));
+        illegal("below 0", () -> s.number(0, 0, -1, 0));
+        illegal("below 0", () -> s.number(0, 50, 50, -1));
+        missing("no place, ahead of that", () -> s.number(6, -1, 0, 0));
+        missing("no place", () -> s.number(-1, 0, 0, 0));
     }
 
     private void promise16() {
@@ -750,11 +701,11 @@ public final class PromisesTest {
         is("y^40", 4, s.value(2, 0, 3, 0));
         told(2, "a=z^8;b=a^5");
         is("z^40", 4, s.value(2, 0, 0, 3));
-        CHECKS.illegal("no point", () -> s.value(0, 7, 0, 0));
-        CHECKS.illegal("no point", () -> s.value(0, 0, 7, 0));
-        CHECKS.illegal("no point", () -> s.value(0, 0, 0, -1));
-        CHECKS.missing("no place, ahead of that", () -> s.value(6, 7, 0, 0));
-        CHECKS.missing("no place", () -> s.value(-1, 0, 0, 0));
+        illegal("no point", () -> s.value(0, 7, 0, 0));
+        illegal("no point", () -> s.value(0, 0, 7, 0));
+        illegal("no point", () -> s.value(0, 0, 0, -1));
+        missing("no place, ahead of that", () -> s.value(6, 7, 0, 0));
+        missing("no place", () -> s.value(-1, 0, 0, 0));
     }
 
     private void promises17And18() {
@@ -775,11 +726,11 @@ public final class PromisesTest {
         told(3, "a=x-2;b=a^2;c=b-1;d=y-2;e=d^2;f=e-1;g=c*f;h=z*g;i=x*y;j=i+1;k=h+j");
         // (n - 2)^2 - 1 is 0 where n is 0 or 1, so they differ first where x = 2, y = 2, z = 1.
         is("witness", 2 * 9 + 2 * 3 + 1, s.witness(1, 3));
-        CHECKS.missing("no place", () -> s.witness(6, 0));
-        CHECKS.missing("no place", () -> s.witness(0, -1));
-        CHECKS.missing("no place", () -> s.same(6, 0, false) ? 1 : 0);
-        CHECKS.missing("no place", () -> s.same(0, -1, true) ? 1 : 0);
-        CHECKS.missing("no place", () -> s.same(0, 6, false) ? 1 : 0);
+        missing("no place", () -> s.witness(6, 0));
+        missing("no place", () -> s.witness(0, -1));
+        missing("no place", () -> s.same(6, 0, false) ? 1 : 0);
+        missing("no place", () -> s.same(0, -1, true) ? 1 : 0);
+        missing("no place", () -> s.same(0, 6, false) ? 1 : 0);
     }
 
     private void isFactor(int k, int a, int b, int c, int d, int often) {
@@ -804,19 +755,19 @@ public final class PromisesTest {
         is("no factor", 0, s.often(0, 1, 0, 0, 0));
         is("no factor", 0, s.often(0, 0, 0, 1, 2));
         is("of 0", -1, s.often(1, 1, 0, 0, 0));
-        CHECKS.missing("no factor", () -> s.factor(0, 5, 0));
-        CHECKS.missing("no factor", () -> s.factor(0, -1, 0));
-        CHECKS.missing("no what", () -> s.factor(0, 0, 5));
-        CHECKS.missing("no what", () -> s.factor(0, 0, -1));
-        CHECKS.missing("no factor of 0", () -> s.factor(1, 0, 0));
-        CHECKS.missing("no place", () -> s.factor(6, 0, 0));
-        CHECKS.missing("no place", () -> s.factor(-1, 0, 0));
+        missing("no factor", () -> s.factor(0, 5, 0));
+        missing("no factor", () -> s.factor(0, -1, 0));
+        missing("no what", () -> s.factor(0, 0, 5));
+        missing("no what", () -> s.factor(0, 0, -1));
+        missing("no factor of 0", () -> s.factor(1, 0, 0));
+        missing("no place", () -> s.factor(6, 0, 0));
+        missing("no place", () -> s.factor(-1, 0, 0));
         int[][] noLines = {{0, 0, 0, 0}, {0, 0, 0, 1}, {2, 0, 0, 0}, {0, 2, 0, 0}, {0, 0, 2, 0}, {0, 3, 1, 0}, {5, 0, 0, 0}, {-1, 0, 0, 0}, {1, 5, 0, 0},
             {1, -1, 0, 0}, {1, 0, 5, 0}, {1, 0, -1, 0}, {1, 0, 0, 5}, {1, 0, 0, -1}, {6, 0, 0, 0}};
         for (int[] l : noLines) {
-            CHECKS.illegal("no line", () -> s.often(0, l[0], l[1], l[2], l[3]));
-            CHECKS.illegal("no line, ahead of 0", () -> s.often(1, l[0], l[1], l[2], l[3]));
-            CHECKS.missing("no place, ahead of no line", () -> s.often(6, l[0], l[1], l[2], l[3]));
+            illegal("no line", () -> s.often(0, l[0], l[1], l[2], l[3]));
+            illegal("no line, ahead of 0", () -> s.often(1, l[0], l[1], l[2], l[3]));
+            missing("no place, ahead of no line", () -> s.often(6, l[0], l[1], l[2], l[3]));
         }
         // What vanishes at all points of a plane has not always its line.
         told(0, "a=x^5;b=a-x;c=y^5;d=c-y;e=b*z;f=d+e");
@@ -859,8 +810,8 @@ public final class PromisesTest {
         said("x*y*z", "a=x*y;b=a*z");
         said("12*x^2*y*z^10+11", "a=x*x;b=a*y;c=z^5;d=c*c;e=b*d;f=12*e;g=f-2");
         said("y^2+x+y+z+1", "a=x+y;b=z+1;c=a+b;d=y*y;e=c+d");
-        CHECKS.missing("no place", () -> s.say(6));
-        CHECKS.missing("no place", () -> s.say(-1));
+        missing("no place", () -> s.say(6));
+        missing("no place", () -> s.say(-1));
         is("as it was", 'y', s.said(0));
         told(0, "a=x");
         s.field(2);

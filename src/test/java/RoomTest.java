@@ -47,11 +47,7 @@ public final class RoomTest {
     }
 
     private static void tell(StraightPolys s, int place, String text) {
-        for (int i = 0; i < text.length(); i += 20) {
-            int[] w = new int[5];
-            for (int k = 0; k < 20; k++) {
-                w[k / 4] = w[k / 4] << 8 | (i + k < text.length() ? text.charAt(i + k) : ' ');
-            }
+        for (int[] w : Desk.words(text)) {
             s.feed(w[0], w[1], w[2], w[3], w[4]);
         }
         s.tell(place, text.length());
