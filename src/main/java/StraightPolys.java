@@ -1475,7 +1475,8 @@ public final class StraightPolys {
             if (token < 'a' || token > 'w') {
                 return CANNOT_STAND;
             }
-            if (stepNamed[token - 'a'] != NONE) {
+            // With all NAMES told there is no room for a step more, and each NAME is one told already.
+            if (stepNamed[token - 'a'] != NONE || told.size >= MOST_STEPS) {
                 return WRONG_NAME;
             }
             told.names[told.size] = token - 'a' + 1;

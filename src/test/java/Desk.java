@@ -48,6 +48,10 @@ class Desk {
         checks.dueText(sentence + what, want, got);
     }
 
+    void isAnswer(String what, boolean want, boolean got) {
+        isText(what, Boolean.toString(want), Boolean.toString(got));
+    }
+
     void due(String what, int want, Checks.Call call) {
         checks.due(sentence + what, want, call);
     }

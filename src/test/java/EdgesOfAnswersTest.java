@@ -32,10 +32,6 @@ public final class EdgesOfAnswersTest extends Desk {
         is("of(" + place + ", " + what + ")", want, s.of(place, what));
     }
 
-    private void isAnswer(String what, boolean want, boolean got) {
-        isText(what, Boolean.toString(want), Boolean.toString(got));
-    }
-
     private void promise13Degrees() {
         sentence("13 TERMS: 0, 300");
         isOf(0, 0, 0);

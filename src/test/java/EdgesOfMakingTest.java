@@ -257,6 +257,24 @@ public final class EdgesOfMakingTest extends Desk {
             made(1, "x^36", 2, 8, 1, 0);
             made(1, "x^40", 2, 8, 0, 0);
         }
+        sentence("9 COMMON of all numbers MOD P");
+        for (int p : SIZES) {
+            fresh(p);
+            for (int n = 0; n < p * p * p; n++) {
+                int twice = n % p;
+                int one = n / p % p;
+                int other = n / p / p;
+                if (twice != one && twice != other && one != other) {
+                    told(0, "a=x+" + twice + ";b=a^3;c=x+" + one + ";d=b*c;e=d*" + (p - 1));
+                    told(1, "a=x+" + twice + ";b=a^2;c=x+" + other + ";d=b*c;e=d*" + (p - 2));
+                    told(2, "a=x+" + twice + ";b=a^2");
+                    s.make(3, 8, 0, 1);
+                    isAnswer("COMMON", true, s.same(3, 2, false));
+                    s.make(3, 8, 1, 0);
+                    isAnswer("COMMON", true, s.same(3, 2, false));
+                }
+            }
+        }
         sentence("9 COMMON of two that have only a number");
         told(0, "a=x+1;b=a^9;c=b*a");
         told(1, "a=x+2;b=a^9;c=b*a");
@@ -353,6 +371,9 @@ public final class EdgesOfMakingTest extends Desk {
             told(2, "a=" + name + "^5;b=a+1");
             noMake(-2, 4, 2, 0, 2);
         }
+        told(0, ALL_40);
+        noMake(-2, 1, 2, 0, 0);
+        noMake(-2, 1, 4, 0, 9);
         sentence("9 -2 (nothing changes): TOO MUCH of REST");
         fresh(13);
         // Over 13 no LINE goes into x^6 + .. + 1 or x^4 + .. + 1, which is what is left of x^7 - 1 and x^5 - 1.
@@ -494,6 +515,13 @@ public final class EdgesOfMakingTest extends Desk {
             told(0, "a=y^6");
             noPut(-2, 2, 0, 1, 1);
         }
+        told(0, ALL_40);
+        told(1, "a=x^8;b=a^5");
+        for (int v = 0; v < 3; v++) {
+            noPut(-2, 2, 0, v, 0);
+        }
+        noPut(-2, 2, 1, 0, 0);
+        noPut(-2, 2, 0, 2, 1);
         sentence("10 to the greatest EXPONENT of the VARIABLE: no more of them are needed");
         told(1, "a=x^8;b=a^5;c=b+y");
         told(0, "a=y*z;b=z+a");

@@ -401,18 +401,24 @@ public final class EdgesOfProgramsTest extends Desk {
         told("a=x^9;b=a^9;c=", -11, 14);
     }
 
+    /** The first is x, each other one stands on the one ahead of it, by turns in two ways. */
+    private static String steps23(String second, String third) {
+        StringBuilder text = new StringBuilder("a=x;");
+        for (char name = 'b'; name <= 'w'; name++) {
+            text.append(name).append('=').append((char) (name - 1)).append(name % 2 == 0 ? second : third);
+        }
+        return text.toString();
+    }
+
     private void promise4Steps() {
         sentence("4 NAME told once: 23 STEPS at most");
-        StringBuilder text = new StringBuilder("a=x;");
-        for (int i = 1; i < 23; i++) {
-            text.append((char) ('a' + i)).append('=').append((char) ('a' + i - 1)).append("+1;");
-        }
-        told(text.toString(), 2, -1);
+        String text = steps23("+1;", "+1;");
+        told(text, 2, -1);
         is("steps", 23, s.count(1));
         isPoly(0, "x+2");
         missing("no STEP 23", () -> s.step(23, 0));
         for (char name : NAMES.toCharArray()) {
-            told(text.toString() + name, -13, text.length());
+            told(text + name, -13, text.length());
         }
         told(text + "x=1", -11, text.length());
         is("at hand still", 23, s.count(1));
@@ -713,6 +719,17 @@ public final class EdgesOfProgramsTest extends Desk {
                     illegal("z " + no, () -> s.at(0, back, 0, 0, no));
                 }
             }
+        }
+        sentence("8 each of 23 STEPS");
+        told(0, steps23("*2;", "+1;"));
+        int value = 3;
+        for (int step = 0; step < 23; step++) {
+            is("VALUE of " + step, value, s.at(step, false, 3, 0, 0));
+            value = step % 2 == 0 ? value * 2 % 5 : (value + 1) % 5;
+        }
+        for (int step = 22; step >= 0; step--) {
+            int doublings = 11 - (step + 1) / 2;
+            is("TURN of " + step, (1 << doublings) % 5, s.at(step, true, 3, 0, 0));
         }
         sentence("8 (behind that)");
         missing("without a PROGRAM", () -> s.at(0, false, 5, 0, 0));
