@@ -3,7 +3,7 @@ import java.util.Random;
 /** Random runs of calls, each answered by the class and by Naive; the seeds are fixed, so every run is the same. */
 public final class AgainstNaiveTest {
     private static final int[] SIZES = {2, 3, 5, 7, 11, 13};
-    private static final int RUNS = 60;
+    private static final int RUNS = 120;
     private static final int CALLS = 500;
 
     private final Checks checks;
@@ -264,7 +264,7 @@ public final class AgainstNaiveTest {
             return false;
         }
         long lines = (long) p() * p() * p();
-        return lines * naive.of(place, 0) * (1 + naive.of(place, 1)) > 400000;
+        return lines * naive.of(place, 0) * (1 + naive.of(place, 1)) > 100000;
     }
 
     private void lookAtPlaces() {
