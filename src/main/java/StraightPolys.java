@@ -447,6 +447,15 @@ public final class StraightPolys {
             return Math.max(0, degreeIn(variable));
         }
 
+        /** The least EXPONENT, 0 for the polynomial 0. */
+        int leastIn(int variable) {
+            int least = size == 0 ? 0 : MOST_EXPONENT;
+            for (int i = 0; i < size; i++) {
+                least = Math.min(least, exponent(keys[i], variable));
+            }
+            return least;
+        }
+
         boolean isInXAlone() {
             return degreeIn(1) <= 0 && degreeIn(2) <= 0;
         }
@@ -500,6 +509,11 @@ public final class StraightPolys {
             } else {
                 Arrays.fill(cells, 0, used, 0);
             }
+        }
+
+        /** Behind these exponents there is nothing any more. */
+        void narrow(int x, int y, int z) {
+            used = Math.min(used, x * strides[0] + y * strides[1] + z + 1);
         }
 
         int cellOf(int key) {
@@ -968,6 +982,10 @@ public final class StraightPolys {
             ofSecond = main == 2 ? 0 : c;
             alone = d;
         }
+
+        boolean isVariable() {
+            return ofFirst == 0 && ofSecond == 0 && alone == 0;
+        }
     }
 
     /** The FACTORS of the polynomial that was asked last, and what is left of it. */
@@ -983,6 +1001,8 @@ public final class StraightPolys {
         private final Box left = new Box();
         private final Box trial = new Box();
         private final int[] degrees = new int[VARIABLES];
+        private int degree = 0;
+        private final int[] timesOfVariable = new int[VARIABLES];
         private final Line line = new Line(1, 0, 0, 0);
         private int p = 2;
         private Poly found = null;
@@ -1034,14 +1054,20 @@ public final class StraightPolys {
             return takeOut(asked);
         }
 
+        /** Without x, y and z, as often as they go in by themselves: no division is needed to see that. */
         private void layOut(Poly f, int newP) {
             p = newP;
+            int gone = 0;
             for (int variable = 0; variable < VARIABLES; variable++) {
-                degrees[variable] = f.roomIn(variable);
+                int least = f.leastIn(variable);
+                timesOfVariable[variable] = least;
+                degrees[variable] = f.roomIn(variable) - least;
+                gone += least * Poly.unit(variable);
             }
+            degree = f.degree() - Poly.degreeOf(gone);
             left.open(degrees[0], degrees[1], degrees[2]);
             for (int i = 0; i < f.size; i++) {
-                left.cells[left.cellOf(f.keys[i])] = f.numbers[i];
+                left.cells[left.cellOf(f.keys[i] - gone)] = f.numbers[i];
             }
         }
 
@@ -1059,7 +1085,7 @@ public final class StraightPolys {
         /** Looks at values first: a FACTOR is 0 where its LINE is, and so are the TERMS of highest DEGREE of both. */
         private void tryLines(int a, int b, int c) {
             line.set(a, b, c, 0);
-            if (!canGoIn(line) || !highest.isZeroOn(line)) {
+            if (!highest.isZeroOn(line)) {
                 return;
             }
             for (int d = 0; d < p; d++) {
@@ -1082,6 +1108,9 @@ public final class StraightPolys {
         }
 
         private int takeOut(Line by) {
+            if (by.isVariable()) {
+                return timesOfVariable[by.main];
+            }
             int times = 0;
             while (times <= MOST_EXPONENT && divide(by)) {
                 times++;
@@ -1110,9 +1139,11 @@ public final class StraightPolys {
                 return false;
             }
             takeQuotient(by);
+            degree--;
             degrees[by.main]--;
             degrees[by.first] -= by.ofFirst == 0 ? 0 : 1;
             degrees[by.second] -= by.ofSecond == 0 ? 0 : 1;
+            left.narrow(degrees[0], degrees[1], degrees[2]);
             return true;
         }
 
@@ -1127,8 +1158,9 @@ public final class StraightPolys {
             int minusAlone = by.alone == 0 ? 0 : p - by.alone;
             int mostFirst = degrees[by.first];
             int mostSecond = degrees[by.second];
-            for (int i = 0; i <= mostFirst; i++) {
-                for (int k = 0; k <= mostSecond; k++) {
+            for (int i = 0; i <= Math.min(mostFirst, degree - m); i++) {
+                int last = Math.min(mostSecond, degree - m - i);
+                for (int k = 0; k <= last; k++) {
                     int cell = m * strideMain + i * strideFirst + k * strideSecond;
                     int number = cells[cell] % p;
                     cells[cell] = number;
@@ -1156,7 +1188,8 @@ public final class StraightPolys {
             int strideFirst = trial.strides[by.first];
             int strideSecond = trial.strides[by.second];
             for (int i = 0; i <= degrees[by.first]; i++) {
-                for (int k = 0; k <= degrees[by.second]; k++) {
+                int last = Math.min(degrees[by.second], degree - i);
+                for (int k = 0; k <= last; k++) {
                     if (trial.cells[i * strideFirst + k * strideSecond] % p != 0) {
                         return false;
                     }
@@ -1172,8 +1205,9 @@ public final class StraightPolys {
             int strideSecond = trial.strides[by.second];
             for (int m = 0; m <= degrees[by.main]; m++) {
                 boolean isTop = m == degrees[by.main];
-                for (int i = 0; i <= degrees[by.first]; i++) {
-                    for (int k = 0; k <= degrees[by.second]; k++) {
+                for (int i = 0; i <= Math.min(degrees[by.first], degree - m); i++) {
+                    int last = Math.min(degrees[by.second], degree - m - i);
+                    for (int k = 0; k <= last; k++) {
                         int cell = m * strideMain + i * strideFirst + k * strideSecond;
                         left.cells[cell] = isTop ? 0 : trial.cells[cell + strideMain];
                     }

@@ -32,6 +32,10 @@ public final class FactorsTest extends Desk {
             s.make(1, 4, 1, 1 + random.nextInt(3));
             s.make(0, 2, 0, 1);
         }
+        if (random.nextInt(3) == 0) {
+            told(1, "a=x^" + random.nextInt(10) + ";b=y^" + random.nextInt(10) + ";c=z^" + random.nextInt(10) + ";d=a*b;e=d*c");
+            s.make(0, 2, 0, 1);
+        }
         Map<Integer, Integer> whole = polyAt(0);
         is("REST", s.make(2, 7, 0, 0), s.of(2, 0));
         is("no FACTORS of REST", 0, s.of(2, 6));
